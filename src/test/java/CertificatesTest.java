@@ -117,6 +117,10 @@ public final class CertificatesTest {
         Due.is("owner(10)", x.owner(10), 2);
         Due.is("again", x.move(1, 10, 2), 8);
         sameRun(x, 0, 1, 10, 2, NONE);
+        x.move(2, 1, 0);
+        x.move(5, 2, 0);
+        x.move(9, 1, 1);
+        Due.is("some here and there", x.move(1, 9, 0), 6);
     }
 
     private static void useRefusals() {

@@ -15,6 +15,8 @@ public final class TotalsTest {
         doubles();
         pathRefusals();
         pathEdges();
+        pathLowAgainstHigh();
+        pathFromLaterBase();
         pathWithFractions();
         pathBeyondLongs();
         pathByMarketOnce();
@@ -286,6 +288,31 @@ public final class TotalsTest {
         Due.is("more than the base", x.onPath(1, 2, 3, 0), BAD);
         x.row(0, 0, 600, 366, NONE);
         Due.is("2100 of 2000", x.onPath(1, 0, 9, 0), 0);
+    }
+
+    private static void pathLowAgainstHigh() {
+        SmokeLedger x = new SmokeLedger();
+        x.factor(0, 0, 1, 5);
+        x.factor(0, 1, 5, 9);
+        x.row(0, 0, 100, 0, NONE);
+        x.row(0, 0, 100, 365, NONE);
+        Due.is("low 500 of high 500", x.onPath(1, 0, 2, 0), 1);
+        Due.is("low 500 of less", x.onPath(1, 0, 2, 1), 0);
+        x.factor(0, 1, 4, 9);
+        Due.is("as of all versions", x.onPath(1, 0, 2, 1), 1);
+    }
+
+    private static void pathFromLaterBase() {
+        SmokeLedger x = new SmokeLedger();
+        x.factor(0, 0, 1, 1);
+        x.row(0, 0, 100, 5 * 365, NONE);
+        x.row(0, 0, 75, 6 * 365, NONE);
+        x.row(0, 0, 50, 7 * 365, NONE);
+        Due.is("half the way of 50", x.onPath(6, 5, 7, 50), 1);
+        Due.is("half the way of 51", x.onPath(6, 5, 7, 51), 0);
+        Due.is("the whole way of 50", x.onPath(7, 5, 7, 50), 1);
+        Due.is("the whole way of 51", x.onPath(7, 5, 7, 51), 0);
+        Due.is("no way yet", x.onPath(5, 5, 7, 100), 1);
     }
 
     private static void pathWithFractions() {

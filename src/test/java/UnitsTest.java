@@ -180,6 +180,9 @@ public final class UnitsTest {
         Due.is("holds", x.holds(0, 1, 3645), 2);
         Due.is("holds", x.holds(0, 1, 3352), 99);
         Due.is("holds", x.holds(0, 1, 3351), 0);
+        Due.is("share behind all", x.share(1, 3649), 770000);
+        Due.is("share ahead of all", x.share(1, 3351), 0);
+        Due.is("days", x.days(1, 3645, 3649), 20000 + 770000);
     }
 
     private static void refusedChangesNothing() {
