@@ -477,7 +477,7 @@ public final class SmokeLedger {
                 day[place] = from;
             }
             hundredths[place] = parts;
-            Arrays.fill(spanIsMade, false);
+            forgetSpans();
             return before;
         }
 
@@ -573,6 +573,12 @@ public final class SmokeLedger {
                 level = tiedToAnyOf(level);
             }
             return level != 0;
+        }
+
+        private void forgetSpans() {
+            for (int span = 0; span <= MAX_HOLDINGS; span++) {
+                spanIsMade[span] = false;
+            }
         }
 
         private long shareIn(int span, int unit) {

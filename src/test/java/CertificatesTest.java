@@ -19,14 +19,6 @@ public final class CertificatesTest {
         Due.finish();
     }
 
-    private static SmokeLedger withUnits(int n) {
-        SmokeLedger x = new SmokeLedger();
-        for (int i = 1; i < n; i++) {
-            x.unit();
-        }
-        return x;
-    }
-
     private static void sameRun(SmokeLedger x, int i, int first, int length, int owner, int row) {
         Due.is("run " + i + ", first", x.run(i, 0), first);
         Due.is("run " + i + ", how many", x.run(i, 1), length);
@@ -35,7 +27,7 @@ public final class CertificatesTest {
     }
 
     private static void issues() {
-        SmokeLedger x = withUnits(2);
+        SmokeLedger x = Ledgers.withUnits(2);
         Due.is("owner", x.issue(2, 1), UNKNOWN);
         Due.is("owner", x.issue(-1, 1), UNKNOWN);
         Due.is("n 0", x.issue(0, 0), BAD);
@@ -59,7 +51,7 @@ public final class CertificatesTest {
     }
 
     private static void issuesJoin() {
-        SmokeLedger x = withUnits(2);
+        SmokeLedger x = Ledgers.withUnits(2);
         x.issue(1, 3);
         Due.is("behind", x.issue(1, 4), 4);
         Due.is("one run", x.runs(), 1);
@@ -75,7 +67,7 @@ public final class CertificatesTest {
     }
 
     private static void moveRefusals() {
-        SmokeLedger x = withUnits(2);
+        SmokeLedger x = Ledgers.withUnits(2);
         x.row(0, 1, 5, 0, NONE);
         x.issue(0, 10);
         x.use(5, 1, 0);
@@ -102,7 +94,7 @@ public final class CertificatesTest {
     }
 
     private static void moves() {
-        SmokeLedger x = withUnits(3);
+        SmokeLedger x = Ledgers.withUnits(3);
         x.issue(0, 10);
         Due.is("to its owner", x.move(1, 10, 0), 0);
         Due.is("some", x.move(3, 2, 1), 2);
@@ -124,7 +116,7 @@ public final class CertificatesTest {
     }
 
     private static void useRefusals() {
-        SmokeLedger x = withUnits(2);
+        SmokeLedger x = Ledgers.withUnits(2);
         x.row(0, 1, 5, 0, NONE);
         x.row(0, 0, 5, 0, NONE);
         x.row(0, 2, 5, 0, NONE);
@@ -162,7 +154,7 @@ public final class CertificatesTest {
     }
 
     private static void uses() {
-        SmokeLedger x = withUnits(2);
+        SmokeLedger x = Ledgers.withUnits(2);
         x.row(1, 1, 100, 0, NONE);
         x.row(1, 1, 100, 0, NONE);
         x.issue(1, 50);
@@ -184,7 +176,7 @@ public final class CertificatesTest {
     }
 
     private static void usedOnceForAll() {
-        SmokeLedger x = withUnits(2);
+        SmokeLedger x = Ledgers.withUnits(2);
         x.row(0, 1, 100, 0, NONE);
         x.row(0, 1, 100, 0, NONE);
         x.issue(0, 4);
@@ -196,10 +188,15 @@ public final class CertificatesTest {
         Due.is("moved one is not the row's unit's", x.use(1, 1, 0), STATE);
         x.move(1, 1, 0);
         Due.is("moved back", x.use(1, 1, 0), 3);
+        x.issue(0, 6);
+        x.use(8, 1, 1);
+        Due.is("one is used, and one behind them", x.use(3, 2, 0), STATE);
+        Due.is("one is used, and one behind them", x.move(3, 2, 1), STATE);
+        Due.is("between used ones", x.use(4, 4, 1), 5);
     }
 
     private static void ownersAndRows() {
-        SmokeLedger x = withUnits(2);
+        SmokeLedger x = Ledgers.withUnits(2);
         x.row(0, 1, 100, 0, NONE);
         x.row(0, 1, 100, 0, NONE);
         int[] none = {1, 0, -1, NONE, Integer.MIN_VALUE, Integer.MAX_VALUE};
@@ -224,7 +221,7 @@ public final class CertificatesTest {
     }
 
     private static void frees() {
-        SmokeLedger x = withUnits(3);
+        SmokeLedger x = Ledgers.withUnits(3);
         x.row(0, 1, 100, 0, NONE);
         Due.is("owner", x.free(3), UNKNOWN);
         Due.is("owner", x.free(-1), UNKNOWN);
@@ -243,7 +240,7 @@ public final class CertificatesTest {
     }
 
     private static void runsSplitAndJoin() {
-        SmokeLedger x = withUnits(3);
+        SmokeLedger x = Ledgers.withUnits(3);
         x.issue(0, 9);
         x.issue(1, 9);
         x.move(4, 3, 1);
@@ -287,7 +284,7 @@ public final class CertificatesTest {
     }
 
     private static void manyRuns() {
-        SmokeLedger x = withUnits(2);
+        SmokeLedger x = Ledgers.withUnits(2);
         x.issue(0, 20000);
         for (int i = 1; i <= 480; i++) {
             Due.is("move", x.move(i * 40, 1, 1), 1);
@@ -301,7 +298,7 @@ public final class CertificatesTest {
     }
 
     private static void counts() {
-        SmokeLedger x = withUnits(3);
+        SmokeLedger x = Ledgers.withUnits(3);
         x.row(0, 0, 1, 0, NONE);
         x.row(0, 0, 1, 0, NONE);
         for (int i = 0; i < 4; i++) {

@@ -11,7 +11,8 @@ public final class LanguageTest {
         "->", "::", "\\w+Exact\\b", "\\bpackage\\b", "\\bprotected\\b", "\\bvolatile\\b", "\\bnative\\b",
         "\\bvar\\b", "\\bObject\\b", "\\bSystem\\.(?!arraycopy\\b)", "\\bArrays\\.(?!copyOf\\b|copyOfRange\\b|fill\\b)",
         "\\bMath\\.(?!max\\b|min\\b|abs\\b|floorDiv\\b|floorMod\\b)", "\\bstatic\\s*\\{", "\\bhashCode\\b", "\\btoString\\b",
-        "\\bwhile\\s*\\(\\s*true\\b", "\\bfor\\s*\\(\\s*;", "\\bThread\\b", "\\bRandom\\b", "[^\\x00-\\xff]"};
+        "\\bwhile\\s*\\(\\s*true\\b", "\\bfor\\s*\\(\\s*;", "\\bThread\\b", "\\bRandom\\b", "[^\\x00-\\xff]",
+        "\\bArrays\\.\\w+\\([^;]*\\b(true|false|null)\\b"};
 
     public static void main(String[] args) throws IOException {
         String source = Files.readString(Path.of("src/main/java/SmokeLedger.java"));

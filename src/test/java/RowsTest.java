@@ -18,16 +18,8 @@ public final class RowsTest {
         Due.finish();
     }
 
-    private static SmokeLedger withUnits(int n) {
-        SmokeLedger x = new SmokeLedger();
-        for (int i = 1; i < n; i++) {
-            x.unit();
-        }
-        return x;
-    }
-
     private static void rowRefusals() {
-        SmokeLedger x = withUnits(2);
+        SmokeLedger x = Ledgers.withUnits(2);
         Due.is("unit", x.row(2, 0, 1, 0, NONE), UNKNOWN);
         Due.is("unit NONE", x.row(NONE, 0, 1, 0, NONE), UNKNOWN);
         Due.is("unit below 0", x.row(-1, 0, 1, 0, NONE), UNKNOWN);
@@ -50,7 +42,7 @@ public final class RowsTest {
     }
 
     private static void rowsFull() {
-        SmokeLedger x = withUnits(2);
+        SmokeLedger x = Ledgers.withUnits(2);
         for (int i = 0; i < 200; i++) {
             Due.is("row", x.row(i % 2, i % 4, i + 1, i, NONE), i);
         }
@@ -64,7 +56,7 @@ public final class RowsTest {
     }
 
     private static void told() {
-        SmokeLedger x = withUnits(3);
+        SmokeLedger x = Ledgers.withUnits(3);
         x.row(1, 1, 50, 400, NONE);
         x.row(2, 3, 60, 800, 1);
         int[] first = {1, 1, 50, 400, NONE, 0, 0};
@@ -85,7 +77,7 @@ public final class RowsTest {
     }
 
     private static void toldDoubleByItsDay() {
-        SmokeLedger x = withUnits(3);
+        SmokeLedger x = Ledgers.withUnits(3);
         x.hold(0, 1, 50, 100);
         x.hold(0, 2, 50, 200);
         x.row(1, 2, 5, 150, 2);
@@ -177,7 +169,7 @@ public final class RowsTest {
     }
 
     private static void tons() {
-        SmokeLedger x = withUnits(2);
+        SmokeLedger x = Ledgers.withUnits(2);
         x.row(1, 0, 100000, 729, NONE);
         x.row(1, 0, 3, 730, NONE);
         Due.is("lacks", x.tons(0, NONE, false, false), NONE);

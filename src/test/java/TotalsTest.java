@@ -23,16 +23,8 @@ public final class TotalsTest {
         Due.finish();
     }
 
-    private static SmokeLedger withUnits(int n) {
-        SmokeLedger x = new SmokeLedger();
-        for (int i = 1; i < n; i++) {
-            x.unit();
-        }
-        return x;
-    }
-
     private static void refusals() {
-        SmokeLedger x = withUnits(2);
+        SmokeLedger x = Ledgers.withUnits(2);
         x.factor(0, 0, 1, 1);
         for (int year = -1; year <= 10; year += 11) {
             Due.is("total: year", x.total(year, NONE, false, false, false), BAD);
@@ -62,7 +54,7 @@ public final class TotalsTest {
     }
 
     private static void totals() {
-        SmokeLedger x = withUnits(3);
+        SmokeLedger x = Ledgers.withUnits(3);
         x.hold(0, 1, 50, 0);
         x.hold(0, 1, 25, 100);
         x.row(0, 0, 10, 364, NONE);
@@ -87,7 +79,7 @@ public final class TotalsTest {
     }
 
     private static void totalsThatLack() {
-        SmokeLedger x = withUnits(2);
+        SmokeLedger x = Ledgers.withUnits(2);
         x.row(1, 3, 5, 10, NONE);
         Due.is("no share: does not matter", x.total(0, NONE, false, false, false), 0);
         x.hold(0, 1, 1, 11);
@@ -100,7 +92,7 @@ public final class TotalsTest {
     }
 
     private static void totalsOnce() {
-        SmokeLedger x = withUnits(3);
+        SmokeLedger x = Ledgers.withUnits(3);
         x.hold(0, 1, 10, 0);
         x.row(0, 2, 5, 10, 1);
         x.row(1, 2, 6, 10, 2);
@@ -116,7 +108,7 @@ public final class TotalsTest {
     }
 
     private static void totalsByMarket() {
-        SmokeLedger x = withUnits(2);
+        SmokeLedger x = Ledgers.withUnits(2);
         x.hold(0, 1, 50, 0);
         x.row(1, 1, 10, 0, NONE);
         x.row(1, 0, 10, 0, NONE);
@@ -140,20 +132,9 @@ public final class TotalsTest {
         Due.is("big", x.anew(0, 3649, NONE, false, false, true), 100L * 100000000L * 25000000L);
     }
 
-    /** A unit with a share of 25 wholes, and 100 rows of the largest tons in years 0 and 1. */
+    /** 100 rows of the largest tons and the largest share in each of the years 0 and 1. */
     private static SmokeLedger big() {
-        SmokeLedger x = withUnits(10);
-        for (int unit = 1; unit <= 9; unit++) {
-            x.hold(0, unit, 100, 0);
-        }
-        for (int a = 1; a <= 4; a++) {
-            for (int b = 5; b <= 9; b++) {
-                x.hold(a, b, 100, 0);
-            }
-        }
-        for (int b = 5; b <= 8; b++) {
-            x.hold(b, 9, 100, 0);
-        }
+        SmokeLedger x = Ledgers.withBigShare();
         x.factor(0, 0, 1000, 1000);
         for (int i = 0; i < 100; i++) {
             x.row(9, 0, 100000, i, NONE);
@@ -163,7 +144,7 @@ public final class TotalsTest {
     }
 
     private static void anew() {
-        SmokeLedger x = withUnits(3);
+        SmokeLedger x = Ledgers.withUnits(3);
         x.hold(0, 1, 50, 0);
         x.hold(0, 1, 100, 400);
         x.hold(0, 2, 10, 400);
@@ -183,7 +164,7 @@ public final class TotalsTest {
     }
 
     private static void anewDoubles() {
-        SmokeLedger x = withUnits(3);
+        SmokeLedger x = Ledgers.withUnits(3);
         x.hold(0, 1, 50, 0);
         x.hold(0, 2, 50, 100);
         x.hold(0, 1, 0, 200);
@@ -198,7 +179,7 @@ public final class TotalsTest {
     }
 
     private static void parts() {
-        SmokeLedger x = withUnits(3);
+        SmokeLedger x = Ledgers.withUnits(3);
         x.hold(0, 1, 50, 0);
         x.hold(1, 2, 50, 0);
         x.row(0, 0, 1, 0, NONE);
@@ -226,7 +207,7 @@ public final class TotalsTest {
     }
 
     private static void doubles() {
-        SmokeLedger x = withUnits(3);
+        SmokeLedger x = Ledgers.withUnits(3);
         x.hold(0, 1, 50, 100);
         x.row(0, 0, 1, 99, 1);
         x.row(0, 0, 1, 100, 1);
@@ -316,7 +297,7 @@ public final class TotalsTest {
     }
 
     private static void pathWithFractions() {
-        SmokeLedger x = withUnits(4);
+        SmokeLedger x = Ledgers.withUnits(4);
         x.hold(0, 1, 1, 0);
         x.hold(1, 2, 1, 0);
         x.hold(2, 3, 1, 0);
@@ -344,7 +325,7 @@ public final class TotalsTest {
     }
 
     private static void pathByMarketOnce() {
-        SmokeLedger x = withUnits(2);
+        SmokeLedger x = Ledgers.withUnits(2);
         x.hold(0, 1, 100, 0);
         x.factor(1, 0, 10, 10);
         x.row(0, 1, 10, 0, NONE);

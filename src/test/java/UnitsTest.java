@@ -22,14 +22,6 @@ public final class UnitsTest {
         Due.finish();
     }
 
-    private static SmokeLedger withUnits(int n) {
-        SmokeLedger x = new SmokeLedger();
-        for (int i = 1; i < n; i++) {
-            Due.is("unit()", x.unit(), i);
-        }
-        return x;
-    }
-
     private static void newObject() {
         SmokeLedger x = new SmokeLedger();
         Due.is("count(0)", x.count(0), 1);
@@ -47,7 +39,7 @@ public final class UnitsTest {
     }
 
     private static void units() {
-        SmokeLedger x = withUnits(10);
+        SmokeLedger x = Ledgers.withUnits(10);
         Due.is("an 11th", x.unit(), FULL);
         Due.is("again", x.unit(), FULL);
         Due.is("count(0)", x.count(0), 10);
@@ -57,7 +49,7 @@ public final class UnitsTest {
     }
 
     private static void holdRefusals() {
-        SmokeLedger x = withUnits(3);
+        SmokeLedger x = Ledgers.withUnits(3);
         Due.is("a", x.hold(3, 1, 1, 0), UNKNOWN);
         Due.is("a below 0", x.hold(-1, 1, 1, 0), UNKNOWN);
         Due.is("a NONE", x.hold(NONE, 1, 1, 0), UNKNOWN);
@@ -83,7 +75,7 @@ public final class UnitsTest {
     }
 
     private static void holdOrderOfRefusals() {
-        SmokeLedger x = withUnits(3);
+        SmokeLedger x = Ledgers.withUnits(3);
         Due.is("UNKNOWN ahead of BAD", x.hold(0, 3, 101, 0), UNKNOWN);
         Due.is("UNKNOWN ahead of STATE", x.hold(3, 3, 1, 0), UNKNOWN);
         Due.is("BAD ahead of STATE", x.hold(1, 1, 1, 3650), BAD);
@@ -97,7 +89,7 @@ public final class UnitsTest {
     }
 
     private static void holdAnswersWhatWas() {
-        SmokeLedger x = withUnits(2);
+        SmokeLedger x = Ledgers.withUnits(2);
         Due.is("first", x.hold(0, 1, 30, 10), 0);
         Due.is("later", x.hold(0, 1, 40, 20), 30);
         Due.is("instead", x.hold(0, 1, 50, 20), 40);
@@ -110,7 +102,7 @@ public final class UnitsTest {
     }
 
     private static void holdRings() {
-        SmokeLedger x = withUnits(6);
+        SmokeLedger x = Ledgers.withUnits(6);
         Due.is("hold", x.hold(1, 2, 10, 0), 0);
         Due.is("back", x.hold(2, 1, 10, 3000), STATE);
         Due.is("back by 0", x.hold(2, 1, 0, 3000), 0);
@@ -125,7 +117,7 @@ public final class UnitsTest {
     }
 
     private static void holdDepth() {
-        SmokeLedger x = withUnits(10);
+        SmokeLedger x = Ledgers.withUnits(10);
         Due.is("0-1", x.hold(0, 1, 10, 0), 0);
         Due.is("1-2", x.hold(1, 2, 10, 0), 0);
         Due.is("2-3", x.hold(2, 3, 10, 0), 0);
@@ -147,7 +139,7 @@ public final class UnitsTest {
     }
 
     private static void holdTiesOfAllDays() {
-        SmokeLedger x = withUnits(5);
+        SmokeLedger x = Ledgers.withUnits(5);
         Due.is("1-2 from 0", x.hold(1, 2, 10, 0), 0);
         Due.is("none from 10", x.hold(1, 2, 0, 10), 10);
         Due.is("2-1 from 20: the old one still counts", x.hold(2, 1, 10, 20), STATE);
@@ -163,7 +155,7 @@ public final class UnitsTest {
     }
 
     private static void holdFull() {
-        SmokeLedger x = withUnits(3);
+        SmokeLedger x = Ledgers.withUnits(3);
         for (int i = 0; i < 100; i++) {
             x.hold(0, 1, i, 3649 - i * 3);
         }
@@ -186,7 +178,7 @@ public final class UnitsTest {
     }
 
     private static void refusedChangesNothing() {
-        SmokeLedger x = withUnits(3);
+        SmokeLedger x = Ledgers.withUnits(3);
         x.hold(0, 1, 50, 0);
         x.hold(1, 2, 50, 0);
         Due.is("ring", x.hold(2, 0, 50, 0), STATE);
@@ -197,7 +189,7 @@ public final class UnitsTest {
     }
 
     private static void holdsByDays() {
-        SmokeLedger x = withUnits(3);
+        SmokeLedger x = Ledgers.withUnits(3);
         x.hold(0, 1, 20, 100);
         x.hold(0, 1, 60, 50);
         x.hold(0, 2, 99, 70);
@@ -218,7 +210,7 @@ public final class UnitsTest {
     }
 
     private static void shares() {
-        SmokeLedger x = withUnits(5);
+        SmokeLedger x = Ledgers.withUnits(5);
         Due.is("unit", x.share(5, 0), UNKNOWN);
         Due.is("unit", x.share(-1, 0), UNKNOWN);
         Due.is("day", x.share(1, -1), BAD);
@@ -244,7 +236,7 @@ public final class UnitsTest {
     }
 
     private static void sharesAreExact() {
-        SmokeLedger x = withUnits(4);
+        SmokeLedger x = Ledgers.withUnits(4);
         x.hold(0, 1, 1, 0);
         x.hold(1, 2, 1, 0);
         x.hold(2, 3, 1, 0);
@@ -263,25 +255,14 @@ public final class UnitsTest {
     }
 
     private static void bigShares() {
-        SmokeLedger x = withUnits(10);
-        for (int unit = 1; unit <= 9; unit++) {
-            Due.is("at first hand", x.hold(0, unit, 100, 0), 0);
-        }
-        for (int a = 1; a <= 4; a++) {
-            for (int b = 5; b <= 9; b++) {
-                Due.is("by the first four", x.hold(a, b, 100, 0), 0);
-            }
-        }
-        for (int b = 5; b <= 8; b++) {
-            Due.is("by the second four", x.hold(b, 9, 100, 0), 0);
-        }
+        SmokeLedger x = Ledgers.withBigShare();
         Due.is("share(5, 0)", x.share(5, 0), 5000000);
         Due.is("share(9, 0)", x.share(9, 0), 25000000);
         Due.is("days(9, 0, 3649)", x.days(9, 0, 3649), 91250000000L);
     }
 
     private static void days() {
-        SmokeLedger x = withUnits(2);
+        SmokeLedger x = Ledgers.withUnits(2);
         x.hold(0, 1, 10, 5);
         Due.is("unit", x.days(2, 0, 0), UNKNOWN);
         Due.is("from", x.days(1, -1, 5), BAD);
@@ -297,7 +278,7 @@ public final class UnitsTest {
     }
 
     private static void daysByChanges() {
-        SmokeLedger x = withUnits(4);
+        SmokeLedger x = Ledgers.withUnits(4);
         x.hold(0, 1, 50, 10);
         x.hold(0, 2, 20, 10);
         x.hold(1, 3, 40, 20);
