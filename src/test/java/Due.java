@@ -2,20 +2,30 @@
 final class Due {
     private static int asked = 0;
     private static int wrong = 0;
+    private static String about = "";
 
     private Due() {
+    }
+
+    /** What the answers from here on are about: it is told with each that is not as due. */
+    static void about(String what) {
+        about = what + ": ";
     }
 
     static void is(String call, long got, long want) {
         asked++;
         if (got != want) {
             wrong++;
-            System.out.println(call + " answered " + got + ", due is " + want);
+            System.out.println(about + call + " answered " + got + ", due is " + want);
         }
     }
 
     static void holds(String what, boolean so) {
         is(what, so ? 1 : 0, 1);
+    }
+
+    static int asked() {
+        return asked;
     }
 
     static void finish() {
