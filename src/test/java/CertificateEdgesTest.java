@@ -455,6 +455,20 @@ public final class CertificateEdgesTest {
         Due.is("all used", x.free(0), 0);
     }
 
+    @Says(promise = 24, words = "How many SERIALS of an OWNER are not USED.")
+    static void freeInEverMoreRuns() {
+        SmokeLedger x = Ledgers.withUnits(2);
+        x.issue(0, 1000);
+        for (int i = 1; i <= 70; i++) {
+            x.move(2 * i, 1, 1);
+            Due.is("of the one", x.free(0), 1000 - i);
+            Due.is("of the other", x.free(1), i);
+        }
+        x.move(2, 139, 0);
+        Due.is("all back", x.free(0), 1000);
+        Due.is("of the other", x.free(1), 0);
+    }
+
     // ---- promise 25, runs
 
     @Says(promise = 25, words = "How many RUNS there are.")
@@ -568,6 +582,25 @@ public final class CertificateEdgesTest {
         }
         x.issue(2, 19985);
         Due.is("the last grows to the last serial", x.run(4, 1), 19988);
+    }
+
+    @Says(promise = 26, words = "SERIALS one behind the other, issued, that have one OWNER and are USED for one ROW")
+    static void runBehindOthersThatAreJoined() {
+        SmokeLedger x = Ledgers.withUnits(2);
+        x.row(0, POWER, 10, 0, NONE);
+        x.row(0, POWER, 10, 0, NONE);
+        x.issue(0, 9);
+        x.move(2, 1, 1);
+        x.use(4, 2, 0);
+        x.use(6, 2, 1);
+        x.move(2, 1, 0);
+        int[][] due = {{1, 3, 0, NONE}, {4, 2, 0, 0}, {6, 2, 0, 1}, {8, 2, 0, NONE}};
+        Due.is("runs", x.runs(), 4);
+        for (int i = 0; i < 4; i++) {
+            for (int what = 0; what < 4; what++) {
+                Due.is("run " + i + ", " + what, x.run(i, what), due[i][what]);
+            }
+        }
     }
 
     // ---- promise 27, count

@@ -1,19 +1,15 @@
-/** Promises 19 to 27: issue, move, use, owner, usedFor, free, runs, run, count. */
+/** Promises 19 to 27 by ordinary runs of calls: issue, move, use, owner, usedFor, free, runs, run, count. */
 public final class CertificatesTest {
-    private static final int UNKNOWN = -1, BAD = -2, STATE = -3, FULL = -4, NONE = -9;
+    private static final int STATE = -3, NONE = -9;
 
     public static void main(String[] args) {
-        issues();
         issuesJoin();
-        moveRefusals();
         moves();
-        useRefusals();
         uses();
         usedOnceForAll();
         ownersAndRows();
         frees();
         runsSplitAndJoin();
-        runRefusals();
         manyRuns();
         counts();
         Due.finish();
@@ -24,30 +20,6 @@ public final class CertificatesTest {
         Due.is("run " + i + ", how many", x.run(i, 1), length);
         Due.is("run " + i + ", owner", x.run(i, 2), owner);
         Due.is("run " + i + ", row", x.run(i, 3), row);
-    }
-
-    private static void issues() {
-        SmokeLedger x = Ledgers.withUnits(2);
-        Due.is("owner", x.issue(2, 1), UNKNOWN);
-        Due.is("owner", x.issue(-1, 1), UNKNOWN);
-        Due.is("n 0", x.issue(0, 0), BAD);
-        Due.is("n -1", x.issue(0, -1), BAD);
-        Due.is("n 20001", x.issue(0, 20001), BAD);
-        Due.is("UNKNOWN ahead of BAD", x.issue(2, 0), UNKNOWN);
-        Due.is("count(3)", x.count(3), 0);
-        Due.is("issue", x.issue(1, 19990), 1);
-        Due.is("FULL", x.issue(0, 11), FULL);
-        Due.is("FULL", x.issue(0, 20000), FULL);
-        Due.is("BAD ahead of FULL", x.issue(0, Integer.MAX_VALUE), BAD);
-        Due.is("count(3)", x.count(3), 19990);
-        Due.is("the last", x.issue(0, 10), 19991);
-        Due.is("FULL", x.issue(0, 1), FULL);
-        Due.is("count(3)", x.count(3), 20000);
-        Due.is("owner(19990)", x.owner(19990), 1);
-        Due.is("owner(19991)", x.owner(19991), 0);
-        Due.is("owner(20000)", x.owner(20000), 0);
-        Due.is("owner(20001)", x.owner(20001), UNKNOWN);
-        Due.is("at once", new SmokeLedger().issue(0, 20000), 1);
     }
 
     private static void issuesJoin() {
@@ -64,33 +36,6 @@ public final class CertificatesTest {
         Due.is("behind a used one", x.issue(1, 2), 10);
         sameRun(x, 2, 9, 1, 1, 0);
         sameRun(x, 3, 10, 2, 1, NONE);
-    }
-
-    private static void moveRefusals() {
-        SmokeLedger x = Ledgers.withUnits(2);
-        x.row(0, 1, 5, 0, NONE);
-        x.issue(0, 10);
-        x.use(5, 1, 0);
-        Due.is("owner", x.move(1, 1, 2), UNKNOWN);
-        Due.is("owner", x.move(1, 1, NONE), UNKNOWN);
-        Due.is("n 0", x.move(1, 0, 1), BAD);
-        Due.is("n -1", x.move(1, -1, 1), BAD);
-        Due.is("UNKNOWN owner ahead of BAD", x.move(1, 0, 2), UNKNOWN);
-        Due.is("BAD ahead of UNKNOWN serial", x.move(11, 0, 1), BAD);
-        Due.is("from 0", x.move(0, 1, 1), UNKNOWN);
-        Due.is("from -5", x.move(-5, 7, 1), UNKNOWN);
-        Due.is("from 11", x.move(11, 1, 1), UNKNOWN);
-        Due.is("too many", x.move(10, 2, 1), UNKNOWN);
-        Due.is("beyond ints", x.move(2, Integer.MAX_VALUE, 1), UNKNOWN);
-        Due.is("beyond ints", x.move(Integer.MAX_VALUE, Integer.MAX_VALUE, 1), UNKNOWN);
-        Due.is("below ints", x.move(Integer.MIN_VALUE, Integer.MAX_VALUE, 1), UNKNOWN);
-        Due.is("UNKNOWN serial ahead of STATE", x.move(5, 7, 1), UNKNOWN);
-        Due.is("used", x.move(5, 1, 1), STATE);
-        Due.is("used at the end", x.move(1, 5, 1), STATE);
-        Due.is("used at the start", x.move(5, 6, 1), STATE);
-        Due.is("used, to its owner", x.move(5, 1, 0), STATE);
-        Due.is("nothing changed", x.runs(), 3);
-        Due.is("nothing changed", x.free(0), 9);
     }
 
     private static void moves() {
@@ -113,44 +58,6 @@ public final class CertificatesTest {
         x.move(5, 2, 0);
         x.move(9, 1, 1);
         Due.is("some here and there", x.move(1, 9, 0), 6);
-    }
-
-    private static void useRefusals() {
-        SmokeLedger x = Ledgers.withUnits(2);
-        x.row(0, 1, 5, 0, NONE);
-        x.row(0, 0, 5, 0, NONE);
-        x.row(0, 2, 5, 0, NONE);
-        x.row(1, 1, 2, 0, NONE);
-        x.issue(0, 10);
-        x.issue(1, 10);
-        Due.is("row", x.use(1, 1, 4), UNKNOWN);
-        Due.is("row", x.use(1, 1, -1), UNKNOWN);
-        Due.is("row NONE", x.use(1, 1, NONE), UNKNOWN);
-        Due.is("n 0", x.use(1, 0, 0), BAD);
-        Due.is("n -1", x.use(1, -1, 0), BAD);
-        Due.is("UNKNOWN row ahead of BAD", x.use(1, 0, 4), UNKNOWN);
-        Due.is("BAD ahead of UNKNOWN serial", x.use(0, 0, 0), BAD);
-        Due.is("from 0", x.use(0, 1, 0), UNKNOWN);
-        Due.is("from 21", x.use(21, 1, 3), UNKNOWN);
-        Due.is("too many", x.use(20, 2, 3), UNKNOWN);
-        Due.is("beyond ints", x.use(20, Integer.MAX_VALUE, 3), UNKNOWN);
-        Due.is("UNKNOWN serial ahead of STATE", x.use(20, 2, 1), UNKNOWN);
-        Due.is("fuel", x.use(1, 1, 1), STATE);
-        Due.is("goods", x.use(1, 1, 2), STATE);
-        Due.is("another's", x.use(11, 1, 0), STATE);
-        Due.is("some are another's", x.use(10, 2, 0), STATE);
-        Due.is("some are another's", x.use(10, 2, 3), STATE);
-        Due.is("STATE ahead of FULL", x.use(10, 6, 0), STATE);
-        Due.is("FULL", x.use(1, 6, 0), FULL);
-        Due.is("used", x.use(3, 2, 0), 2);
-        Due.is("one is used", x.use(2, 2, 0), STATE);
-        Due.is("one is used", x.use(4, 2, 0), STATE);
-        Due.is("within", x.use(1, 10, 0), STATE);
-        Due.is("FULL", x.use(5, 4, 0), FULL);
-        Due.is("covered", x.told(0, 6), 2);
-        Due.is("just all", x.use(5, 3, 0), 5);
-        Due.is("FULL", x.use(1, 1, 0), FULL);
-        Due.is("covered", x.told(0, 6), 5);
     }
 
     private static void uses() {
@@ -199,11 +106,6 @@ public final class CertificatesTest {
         SmokeLedger x = Ledgers.withUnits(2);
         x.row(0, 1, 100, 0, NONE);
         x.row(0, 1, 100, 0, NONE);
-        int[] none = {1, 0, -1, NONE, Integer.MIN_VALUE, Integer.MAX_VALUE};
-        for (int serial : none) {
-            Due.is("owner", x.owner(serial), UNKNOWN);
-            Due.is("usedFor", x.usedFor(serial), UNKNOWN);
-        }
         x.issue(0, 6);
         x.use(2, 2, 1);
         x.use(4, 1, 0);
@@ -214,17 +116,11 @@ public final class CertificatesTest {
             Due.is("owner " + serial, x.owner(serial), owners[serial - 1]);
             Due.is("usedFor " + serial, x.usedFor(serial), rows[serial - 1]);
         }
-        Due.is("owner(7)", x.owner(7), UNKNOWN);
-        Due.is("usedFor(7)", x.usedFor(7), UNKNOWN);
-        Due.is("owner(0)", x.owner(0), UNKNOWN);
-        Due.is("usedFor(0)", x.usedFor(0), UNKNOWN);
     }
 
     private static void frees() {
         SmokeLedger x = Ledgers.withUnits(3);
         x.row(0, 1, 100, 0, NONE);
-        Due.is("owner", x.free(3), UNKNOWN);
-        Due.is("owner", x.free(-1), UNKNOWN);
         Due.is("nothing", x.free(0), 0);
         x.issue(0, 6);
         x.issue(1, 5);
@@ -270,19 +166,6 @@ public final class CertificatesTest {
         sameRun(x, 1, 5, 14, 1, 1);
     }
 
-    private static void runRefusals() {
-        SmokeLedger x = new SmokeLedger();
-        Due.is("none", x.run(0, 0), UNKNOWN);
-        Due.is("UNKNOWN ahead of BAD", x.run(0, 4), UNKNOWN);
-        x.issue(0, 5);
-        Due.is("what 4", x.run(0, 4), BAD);
-        Due.is("what -1", x.run(0, -1), BAD);
-        Due.is("i 1", x.run(1, 0), UNKNOWN);
-        Due.is("i -1", x.run(-1, 0), UNKNOWN);
-        Due.is("wild", x.run(Integer.MAX_VALUE, 0), UNKNOWN);
-        Due.is("wild", x.run(Integer.MIN_VALUE, 0), UNKNOWN);
-    }
-
     private static void manyRuns() {
         SmokeLedger x = Ledgers.withUnits(2);
         x.issue(0, 20000);
@@ -316,8 +199,5 @@ public final class CertificatesTest {
         for (int what = 0; what < 5; what++) {
             Due.is("count(" + what + ")", x.count(what), due[what]);
         }
-        Due.is("count(5)", x.count(5), BAD);
-        Due.is("count(-1)", x.count(-1), BAD);
-        Due.is("count wild", x.count(Integer.MIN_VALUE), BAD);
     }
 }

@@ -1,8 +1,12 @@
 import java.util.Random;
 
-/** Long runs of calls, made from fixed seeds, on SmokeLedger and on SlowLedger: the answers are the same. */
+/**
+ * Runs of calls as long as the document promises anything for, made from fixed seeds, on SmokeLedger
+ * and on SlowLedger: the answers are the same.
+ */
 public final class ModelTest {
     private static final int NONE = -9;
+    private static final int CALLS = 512;
     private static final int[] WILD = {
         Integer.MIN_VALUE, -10, NONE, -8, -2, -1, 0, 1, 2, 3, 4, 5, 7, 9, 10, 11, 79, 80, 99, 100, 101, 200,
         365, 1000, 1001, 3649, 3650, 19999, 20000, 20001, 100000, 100001, Integer.MAX_VALUE};
@@ -16,6 +20,8 @@ public final class ModelTest {
     private final int leaning;
     private final int lastDay;
     private final int longest;
+    /** What is told nearly as often as it may be, ahead of all else. */
+    private final int filling;
 
     private ModelTest(long seed) {
         random = new Random(seed);
@@ -23,25 +29,42 @@ public final class ModelTest {
         leaning = (int) (seed % 4);
         lastDay = seed % 3 == 0 ? 3649 : 40;
         longest = seed % 7 == 0 ? 8000 : 12;
+        filling = (int) (seed % 11);
     }
 
     public static void main(String[] args) {
-        for (long seed = 1; seed <= 600; seed++) {
-            new ModelTest(seed).play(512);
-        }
-        for (long seed = 1001; seed <= 1008; seed++) {
-            new ModelTest(seed).play(4000);
+        for (long seed = 1; seed <= 660; seed++) {
+            new ModelTest(seed).play();
         }
         Due.finish();
     }
 
-    private void play(int calls) {
+    /** Each answer that is looked at is one call; a step takes two at most. */
+    private void play() {
+        int before = Due.asked();
         int first = random.nextInt(10);
         for (int i = 0; i < first; i++) {
             Due.is("unit", x.unit(), y.unit());
         }
-        for (int i = first; i < calls; i++) {
+        fill();
+        while (Due.asked() - before < CALLS - 1) {
             step();
+        }
+    }
+
+    private void fill() {
+        switch (filling) {
+            case 1: repeat(198, this::tellRow); break;
+            case 2: repeat(79, this::tellFactor); break;
+            case 3: repeat(200, this::tellHolding); break;
+            case 4: Due.is("issue", x.issue(0, 19980), y.issue(0, 19980)); break;
+            default: break;
+        }
+    }
+
+    private static void repeat(int times, Runnable what) {
+        for (int i = 0; i < times; i++) {
+            what.run();
         }
     }
 
@@ -62,7 +85,7 @@ public final class ModelTest {
     }
 
     private int unit() {
-        return pick(0, x.count(0) - 1);
+        return pick(0, y.count(0) - 1);
     }
 
     private int day() {
@@ -74,15 +97,15 @@ public final class ModelTest {
     }
 
     private int row() {
-        return pick(0, x.count(1) - 1);
+        return pick(0, y.count(1) - 1);
     }
 
     private int version() {
-        return random.nextInt(3) == 0 ? NONE : pick(0, x.count(2) - 1);
+        return random.nextInt(3) == 0 ? NONE : pick(0, y.count(2) - 1);
     }
 
     private int serial() {
-        return pick(1, x.count(3));
+        return pick(1, y.count(3));
     }
 
     private int hundredths() {
@@ -99,15 +122,23 @@ public final class ModelTest {
         int b = unit();
         int d = day();
         int e = day();
-        int h = hundredths();
+        int what = pick(0, 5);
         switch (random.nextInt(8)) {
             case 0: Due.is("unit", x.unit(), y.unit()); break;
             case 1: Due.is("holds", x.holds(a, b, d), y.holds(a, b, d)); break;
             case 2: Due.is("share", x.share(a, d), y.share(a, d)); break;
             case 3: Due.is("days", x.days(a, d, e), y.days(a, d, e)); break;
-            case 4: Due.is("count", x.count(h % 6 - 1), y.count(h % 6 - 1)); break;
-            default: Due.is("hold", x.hold(a, b, h, d), y.hold(a, b, h, d)); break;
+            case 4: Due.is("count", x.count(what), y.count(what)); break;
+            default: tellHolding(); break;
         }
+    }
+
+    private void tellHolding() {
+        int a = unit();
+        int b = unit();
+        int h = hundredths();
+        int d = day();
+        Due.is("hold", x.hold(a, b, h, d), y.hold(a, b, h, d));
     }
 
     private void rowsStep() {
@@ -119,19 +150,28 @@ public final class ModelTest {
     }
 
     private void tellStep() {
+        if (coin()) {
+            tellRow();
+        } else {
+            tellFactor();
+        }
+    }
+
+    private void tellRow() {
         int u = unit();
         int k = pick(0, 3);
-        if (coin()) {
-            int amount = coin() ? pick(1, 20) : pick(1, 100000);
-            int d = day();
-            int seller = coin() ? NONE : unit();
-            Due.is("row", x.row(u, k, amount, d, seller), y.row(u, k, amount, d, seller));
-        } else {
-            int year = year();
-            int low = coin() ? pick(0, 3) : pick(0, 1000);
-            int high = coin() ? low : pick(low, 1000);
-            Due.is("factor", x.factor(k, year, low, high), y.factor(k, year, low, high));
-        }
+        int amount = coin() ? pick(1, 20) : pick(1, 100000);
+        int d = day();
+        int seller = coin() ? NONE : unit();
+        Due.is("row", x.row(u, k, amount, d, seller), y.row(u, k, amount, d, seller));
+    }
+
+    private void tellFactor() {
+        int k = pick(0, 3);
+        int year = year();
+        int low = coin() ? pick(0, 3) : pick(0, 1000);
+        int high = coin() ? low : pick(low, 1000);
+        Due.is("factor", x.factor(k, year, low, high), y.factor(k, year, low, high));
     }
 
     private void askStep() {
@@ -197,7 +237,7 @@ public final class ModelTest {
             case 6: Due.is("free", x.free(u), y.free(u)); break;
             case 7: Due.is("runs", x.runs(), y.runs()); break;
             case 8:
-                int i = pick(0, x.runs());
+                int i = pick(0, y.runs());
                 Due.is("run", x.run(i, what), y.run(i, what));
                 break;
             default:
@@ -209,7 +249,7 @@ public final class ModelTest {
 
     /** Chance alone seldom finds serials of just the row's unit. */
     private void useRowsOwn(int from, int row) {
-        int owner = x.told(row, 0);
+        int owner = y.told(row, 0);
         int n = 1 + random.nextInt(3);
         Due.is("move", x.move(from, n, owner), y.move(from, n, owner));
         Due.is("use", x.use(from, n, row), y.use(from, n, row));

@@ -1,14 +1,10 @@
-/** Promises 7 to 13: row, told, factor, factorAs, tons, changed, change. */
+/** Promises 7 to 13 by ordinary runs of calls: row, told, factor, factorAs, tons, changed, change. */
 public final class RowsTest {
-    private static final int UNKNOWN = -1, BAD = -2, STATE = -3, FULL = -4, NONE = -9;
+    private static final int NONE = -9;
 
     public static void main(String[] args) {
-        rowRefusals();
-        rowsFull();
         told();
         toldDoubleByItsDay();
-        factorRefusals();
-        factorsFull();
         factorAs();
         factorAsOfVersions();
         tons();
@@ -16,43 +12,6 @@ public final class RowsTest {
         changed();
         changedByLacking();
         Due.finish();
-    }
-
-    private static void rowRefusals() {
-        SmokeLedger x = Ledgers.withUnits(2);
-        Due.is("unit", x.row(2, 0, 1, 0, NONE), UNKNOWN);
-        Due.is("unit NONE", x.row(NONE, 0, 1, 0, NONE), UNKNOWN);
-        Due.is("unit below 0", x.row(-1, 0, 1, 0, NONE), UNKNOWN);
-        Due.is("seller", x.row(0, 0, 1, 0, 2), UNKNOWN);
-        Due.is("seller -1", x.row(0, 0, 1, 0, -1), UNKNOWN);
-        Due.is("kind 4", x.row(0, 4, 1, 0, NONE), BAD);
-        Due.is("kind -1", x.row(0, -1, 1, 0, NONE), BAD);
-        Due.is("amount 0", x.row(0, 0, 0, 0, NONE), BAD);
-        Due.is("amount 100001", x.row(0, 0, 100001, 0, NONE), BAD);
-        Due.is("amount below 0", x.row(0, 0, Integer.MIN_VALUE, 0, NONE), BAD);
-        Due.is("day -1", x.row(0, 0, 1, -1, NONE), BAD);
-        Due.is("day 3650", x.row(0, 0, 1, 3650, NONE), BAD);
-        Due.is("seller is unit", x.row(1, 0, 1, 0, 1), STATE);
-        Due.is("UNKNOWN ahead of BAD", x.row(0, 4, 1, 0, 2), UNKNOWN);
-        Due.is("BAD ahead of STATE", x.row(1, 4, 1, 0, 1), BAD);
-        Due.is("count(1)", x.count(1), 0);
-        Due.is("edges", x.row(0, 3, 100000, 3649, 1), 0);
-        Due.is("edges", x.row(1, 0, 1, 0, NONE), 1);
-        Due.is("count(1)", x.count(1), 2);
-    }
-
-    private static void rowsFull() {
-        SmokeLedger x = Ledgers.withUnits(2);
-        for (int i = 0; i < 200; i++) {
-            Due.is("row", x.row(i % 2, i % 4, i + 1, i, NONE), i);
-        }
-        Due.is("one more", x.row(0, 0, 1, 0, NONE), FULL);
-        Due.is("UNKNOWN ahead of FULL", x.row(2, 0, 1, 0, NONE), UNKNOWN);
-        Due.is("BAD ahead of FULL", x.row(0, 0, 0, 0, NONE), BAD);
-        Due.is("STATE ahead of FULL", x.row(0, 0, 1, 0, 0), STATE);
-        Due.is("count(1)", x.count(1), 200);
-        Due.is("told(199, 2)", x.told(199, 2), 200);
-        Due.is("told(200, 2)", x.told(200, 2), UNKNOWN);
     }
 
     private static void told() {
@@ -65,11 +24,6 @@ public final class RowsTest {
             Due.is("told(0, " + what + ")", x.told(0, what), first[what]);
             Due.is("told(1, " + what + ")", x.told(1, what), second[what]);
         }
-        Due.is("what 7", x.told(0, 7), BAD);
-        Due.is("what -1", x.told(0, -1), BAD);
-        Due.is("row 2", x.told(2, 0), UNKNOWN);
-        Due.is("row -1", x.told(-1, 0), UNKNOWN);
-        Due.is("UNKNOWN ahead of BAD", x.told(2, 7), UNKNOWN);
         x.issue(1, 9);
         x.use(3, 4, 0);
         Due.is("covered", x.told(0, 6), 4);
@@ -97,35 +51,6 @@ public final class RowsTest {
         Due.is("told instead", x.told(0, 5), 0);
     }
 
-    private static void factorRefusals() {
-        SmokeLedger x = new SmokeLedger();
-        Due.is("kind 4", x.factor(4, 0, 1, 1), BAD);
-        Due.is("kind -1", x.factor(-1, 0, 1, 1), BAD);
-        Due.is("year 10", x.factor(0, 10, 1, 1), BAD);
-        Due.is("year -1", x.factor(0, -1, 1, 1), BAD);
-        Due.is("low -1", x.factor(0, 0, -1, 1), BAD);
-        Due.is("low above high", x.factor(0, 0, 2, 1), BAD);
-        Due.is("high 1001", x.factor(0, 0, 1, 1001), BAD);
-        Due.is("both below 0", x.factor(0, 0, -5, -4), BAD);
-        Due.is("count(2)", x.count(2), 0);
-        Due.is("edges", x.factor(3, 9, 1000, 1000), 0);
-        Due.is("edges", x.factor(0, 0, 0, 0), 1);
-        Due.is("edges", x.factor(0, 0, 0, 1000), 2);
-        Due.is("count(2)", x.count(2), 3);
-    }
-
-    private static void factorsFull() {
-        SmokeLedger x = new SmokeLedger();
-        for (int i = 0; i < 80; i++) {
-            Due.is("factor", x.factor(i % 4, i / 8, i, i + 1), i);
-        }
-        Due.is("one more", x.factor(0, 0, 0, 0), FULL);
-        Due.is("BAD ahead of FULL", x.factor(4, 0, 0, 0), BAD);
-        Due.is("count(2)", x.count(2), 80);
-        Due.is("as of 79", x.factorAs(3, 9, 79, false), 79);
-        Due.is("as of 80", x.factorAs(3, 9, 80, false), UNKNOWN);
-    }
-
     private static void factorAs() {
         SmokeLedger x = new SmokeLedger();
         x.factor(2, 5, 10, 20);
@@ -134,15 +59,6 @@ public final class RowsTest {
         Due.is("a later year", x.factorAs(2, 9, 0, true), 20);
         Due.is("an earlier year", x.factorAs(2, 4, 0, true), NONE);
         Due.is("another kind", x.factorAs(1, 5, 0, true), NONE);
-        Due.is("as of 1", x.factorAs(2, 5, 1, true), UNKNOWN);
-        Due.is("as of -1", x.factorAs(2, 5, -1, true), UNKNOWN);
-        Due.is("kind", x.factorAs(4, 5, 0, true), BAD);
-        Due.is("kind", x.factorAs(-1, 5, 0, true), BAD);
-        Due.is("year", x.factorAs(2, 10, 0, true), BAD);
-        Due.is("year", x.factorAs(2, -1, 0, true), BAD);
-        Due.is("UNKNOWN ahead of BAD", x.factorAs(4, 10, 1, true), UNKNOWN);
-        Due.is("wild", x.factorAs(2, 5, Integer.MAX_VALUE, true), UNKNOWN);
-        Due.is("wild", x.factorAs(2, 5, Integer.MIN_VALUE, true), UNKNOWN);
     }
 
     private static void factorAsOfVersions() {
@@ -182,10 +98,6 @@ public final class RowsTest {
         Due.is("as of 0", x.tons(0, 0, false, true), NONE);
         Due.is("as of 1", x.tons(0, 1, false, true), 100000000);
         Due.is("a share does not matter", x.share(1, 729), 0);
-        Due.is("row", x.tons(2, 0, false, true), UNKNOWN);
-        Due.is("row", x.tons(-1, 0, false, true), UNKNOWN);
-        Due.is("as", x.tons(0, 2, false, true), UNKNOWN);
-        Due.is("as", x.tons(0, -1, false, true), UNKNOWN);
     }
 
     private static void tonsByMarket() {
@@ -240,16 +152,6 @@ public final class RowsTest {
         Due.is("change of year 1", x.change(0, 1, 2, NONE), 2);
         Due.is("change -1", x.change(-1, 0, 2, NONE), NONE);
         Due.is("change far off", x.change(Integer.MAX_VALUE, 0, 2, NONE), NONE);
-        Due.is("one", x.changed(0, 6, 0), UNKNOWN);
-        Due.is("two", x.changed(0, 0, 6), UNKNOWN);
-        Due.is("year", x.changed(10, 0, 1), BAD);
-        Due.is("year", x.changed(-1, 0, 1), BAD);
-        Due.is("UNKNOWN ahead of BAD", x.changed(10, 0, -1), UNKNOWN);
-        Due.is("change: one", x.change(0, 0, 6, 0), UNKNOWN);
-        Due.is("change: two", x.change(0, 0, 0, 6), UNKNOWN);
-        Due.is("change: year", x.change(0, 10, 0, 1), BAD);
-        Due.is("change: year", x.change(0, -1, 0, 1), BAD);
-        Due.is("change: UNKNOWN ahead of BAD", x.change(0, -1, 0, 6), UNKNOWN);
     }
 
     private static void changedByLacking() {

@@ -1,56 +1,22 @@
-/** Promises 14 to 18: total, anew, part, doubles, onPath. */
+/** Promises 14 to 18 by ordinary runs of calls: total, anew, part, doubles, onPath. */
 public final class TotalsTest {
-    private static final int UNKNOWN = -1, BAD = -2, NONE = -9;
+    private static final int NONE = -9;
 
     public static void main(String[] args) {
-        refusals();
         totals();
         totalsThatLack();
         totalsOnce();
         totalsByMarket();
-        totalsAreLongs();
         anew();
         anewDoubles();
         parts();
         doubles();
-        pathRefusals();
         pathEdges();
         pathLowAgainstHigh();
-        pathFromLaterBase();
         pathWithFractions();
         pathBeyondLongs();
         pathByMarketOnce();
         Due.finish();
-    }
-
-    private static void refusals() {
-        SmokeLedger x = Ledgers.withUnits(2);
-        x.factor(0, 0, 1, 1);
-        for (int year = -1; year <= 10; year += 11) {
-            Due.is("total: year", x.total(year, NONE, false, false, false), BAD);
-            Due.is("anew: year", x.anew(year, 0, NONE, false, false, false), BAD);
-            Due.is("part: year", x.part(0, year, NONE, false, false, false), BAD);
-            Due.is("doubles: year", x.doubles(year), BAD);
-            Due.is("total: BAD ahead of UNKNOWN", x.total(year, 1, false, false, false), BAD);
-            Due.is("anew: BAD ahead of UNKNOWN", x.anew(year, 0, 1, false, false, false), BAD);
-            Due.is("part: BAD ahead of UNKNOWN as", x.part(0, year, 1, false, false, false), BAD);
-            Due.is("part: UNKNOWN unit ahead of BAD", x.part(2, year, 0, false, false, false), UNKNOWN);
-        }
-        Due.is("anew: day", x.anew(0, 3650, 0, false, false, false), BAD);
-        Due.is("anew: day", x.anew(0, -1, 0, false, false, false), BAD);
-        Due.is("anew: day NONE", x.anew(0, NONE, 0, false, false, false), BAD);
-        Due.is("anew: BAD day ahead of UNKNOWN", x.anew(0, 3650, 1, false, false, false), BAD);
-        for (int as = -1; as <= 1; as += 2) {
-            Due.is("total: as", x.total(0, as, false, false, false), UNKNOWN);
-            Due.is("anew: as", x.anew(0, 0, as, false, false, false), UNKNOWN);
-            Due.is("part: as", x.part(0, 0, as, false, false, false), UNKNOWN);
-        }
-        Due.is("part: unit", x.part(2, 0, 0, false, false, false), UNKNOWN);
-        Due.is("part: unit NONE", x.part(NONE, 0, 0, false, false, false), UNKNOWN);
-        Due.is("nothing: 0", x.total(0, 0, true, true, true), 0);
-        Due.is("nothing: 0", x.anew(9, 3649, 0, true, true, true), 0);
-        Due.is("nothing: 0", x.part(1, 9, 0, true, true, true), 0);
-        Due.is("nothing: 0", x.doubles(9), 0);
     }
 
     private static void totals() {
@@ -123,24 +89,6 @@ public final class TotalsTest {
         Due.is("place", x.total(0, NONE, false, false, true), 60 * 500000L);
         Due.is("part, market", x.part(1, 0, NONE, true, false, false), 10 * 500000L);
         Due.is("anew, market", x.anew(0, 5, NONE, true, false, false), 10 * 500000L);
-    }
-
-    private static void totalsAreLongs() {
-        SmokeLedger x = big();
-        Due.is("big", x.total(0, NONE, false, false, true), 100L * 100000000L * 25000000L);
-        Due.is("big", x.part(9, 0, NONE, false, false, true), 100L * 100000000L * 25000000L);
-        Due.is("big", x.anew(0, 3649, NONE, false, false, true), 100L * 100000000L * 25000000L);
-    }
-
-    /** 100 rows of the largest tons and the largest share in each of the years 0 and 1. */
-    private static SmokeLedger big() {
-        SmokeLedger x = Ledgers.withBigShare();
-        x.factor(0, 0, 1000, 1000);
-        for (int i = 0; i < 100; i++) {
-            x.row(9, 0, 100000, i, NONE);
-            x.row(9, 0, 100000, 365 + i, NONE);
-        }
-        return x;
     }
 
     private static void anew() {
@@ -222,32 +170,6 @@ public final class TotalsTest {
         Due.is("year 0, one held more", x.doubles(0), 3);
     }
 
-    private static void pathRefusals() {
-        SmokeLedger x = new SmokeLedger();
-        Due.is("year -1", x.onPath(-1, 0, 5, 10), BAD);
-        Due.is("base -1", x.onPath(0, -1, 5, 10), BAD);
-        Due.is("end 10", x.onPath(9, 0, 10, 10), BAD);
-        Due.is("hundredths -1", x.onPath(1, 0, 5, -1), BAD);
-        Due.is("hundredths 101", x.onPath(1, 0, 5, 101), BAD);
-        Due.is("end is base", x.onPath(5, 5, 5, 10), BAD);
-        Due.is("end below base", x.onPath(5, 6, 5, 10), BAD);
-        Due.is("year below base", x.onPath(1, 2, 5, 10), BAD);
-        Due.is("year above end", x.onPath(6, 2, 5, 10), BAD);
-        Due.is("wild", x.onPath(Integer.MAX_VALUE, Integer.MIN_VALUE, Integer.MAX_VALUE, 5), BAD);
-        Due.is("nothing is on the path", x.onPath(2, 2, 5, 0), 1);
-        Due.is("nothing is on the path", x.onPath(5, 2, 5, 100), 1);
-        x.row(0, 0, 1, 0, NONE);
-        x.row(0, 0, 1, 800, NONE);
-        Due.is("both are NONE", x.onPath(2, 0, 4, 0), NONE);
-        x.factor(0, 1, 1, 1);
-        Due.is("base is NONE", x.onPath(2, 0, 4, 0), NONE);
-        SmokeLedger y = new SmokeLedger();
-        y.row(0, 0, 1, 800, NONE);
-        Due.is("year is NONE", y.onPath(2, 0, 4, 0), NONE);
-        Due.is("BAD ahead of NONE", y.onPath(2, 0, 4, 101), BAD);
-        Due.is("another year does not matter", y.onPath(1, 0, 4, 0), 1);
-    }
-
     private static void pathEdges() {
         SmokeLedger x = new SmokeLedger();
         x.factor(0, 0, 1, 2);
@@ -266,7 +188,6 @@ public final class TotalsTest {
         Due.is("year 4 of 4, 99: 20", x.onPath(4, 0, 4, 99), 1);
         Due.is("year 3 of 3, 100: 0 of 0", x.onPath(3, 0, 3, 100), 1);
         Due.is("its own base, low and high", x.onPath(0, 0, 9, 100), 1);
-        Due.is("more than the base", x.onPath(1, 2, 3, 0), BAD);
         x.row(0, 0, 600, 366, NONE);
         Due.is("2100 of 2000", x.onPath(1, 0, 9, 0), 0);
     }
@@ -281,19 +202,6 @@ public final class TotalsTest {
         Due.is("low 500 of less", x.onPath(1, 0, 2, 1), 0);
         x.factor(0, 1, 4, 9);
         Due.is("as of all versions", x.onPath(1, 0, 2, 1), 1);
-    }
-
-    private static void pathFromLaterBase() {
-        SmokeLedger x = new SmokeLedger();
-        x.factor(0, 0, 1, 1);
-        x.row(0, 0, 100, 5 * 365, NONE);
-        x.row(0, 0, 75, 6 * 365, NONE);
-        x.row(0, 0, 50, 7 * 365, NONE);
-        Due.is("half the way of 50", x.onPath(6, 5, 7, 50), 1);
-        Due.is("half the way of 51", x.onPath(6, 5, 7, 51), 0);
-        Due.is("the whole way of 50", x.onPath(7, 5, 7, 50), 1);
-        Due.is("the whole way of 51", x.onPath(7, 5, 7, 51), 0);
-        Due.is("no way yet", x.onPath(5, 5, 7, 100), 1);
     }
 
     private static void pathWithFractions() {
@@ -313,7 +221,7 @@ public final class TotalsTest {
     }
 
     private static void pathBeyondLongs() {
-        SmokeLedger x = big();
+        SmokeLedger x = Ledgers.withBigTotals();
         Due.is("as much", x.onPath(1, 0, 9, 0), 1);
         Due.is("a hundredth less by nine", x.onPath(1, 0, 9, 1), 0);
         Due.is("all less by nine", x.onPath(1, 0, 9, 100), 0);

@@ -579,6 +579,20 @@ public final class UnitEdgesTest {
         Due.is("the most there can be", Ledgers.withBigShare().share(9, 0), 25000000);
     }
 
+    @Says(promise = 5, words = "(one instead of another one is none more)")
+    static void shareWhereAllHoldingsAreTold() {
+        SmokeLedger x = Ledgers.withAllHoldings();
+        Due.is("behind all", x.share(1, 3649), 500000);
+        Due.is("on the first day", x.share(1, 0), 500000);
+        x.hold(0, 1, 7, 990);
+        x.hold(0, 1, 8, 0);
+        Due.is("behind all, told instead", x.share(1, 3649), 70000);
+        Due.is("the day before", x.share(1, 989), 500000);
+        Due.is("on the first day, told instead", x.share(1, 9), 80000);
+        Due.is("one more", x.hold(0, 1, 9, 991), FULL);
+        Due.is("behind all yet", x.share(1, 3649), 70000);
+    }
+
     // ---- promise 6, days
 
     @Says(promise = 6, words = "UNKNOWN")
@@ -655,5 +669,14 @@ public final class UnitEdgesTest {
         Due.is("the first beyond", x.days(0, 0, 2147), 2148000000L);
         Due.is("all", x.days(0, 0, 3649), 3650000000L);
         Due.is("the most there can be", Ledgers.withBigShare().days(9, 0, 3649), 91250000000L);
+    }
+
+    @Says(promise = 6, words = "(one instead of another one is none more)")
+    static void daysWhereAllHoldingsAreTold() {
+        SmokeLedger x = Ledgers.withAllHoldings();
+        Due.is("all", x.days(1, 0, 3649), 1825000000L);
+        x.hold(0, 1, 0, 990);
+        Due.is("told instead", x.days(1, 0, 3649), 495000000L);
+        Due.is("from the last of them", x.days(1, 989, 990), 500000);
     }
 }
