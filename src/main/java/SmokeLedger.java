@@ -598,8 +598,9 @@ public final class SmokeLedger {
             int start = span * MAX_UNITS;
             System.arraycopy(reached, 0, spanShares, start, MAX_UNITS);
             for (int step = 0; step < MAX_STEPS; step++) {
-                goOneStep();
+                lookOneStepAhead();
                 for (int unit = 0; unit < MAX_UNITS; unit++) {
+                    reached[unit] = reachedNext[unit];
                     spanShares[start + unit] += reached[unit];
                 }
             }
@@ -607,7 +608,7 @@ public final class SmokeLedger {
         }
 
         // No cut is lost: what is reached after k steps is a multiple of 100 to the power of (3 - k).
-        private void goOneStep() {
+        private void lookOneStepAhead() {
             for (int to = 0; to < MAX_UNITS; to++) {
                 long sum = 0;
                 for (int from = 0; from < MAX_UNITS; from++) {
@@ -615,7 +616,6 @@ public final class SmokeLedger {
                 }
                 reachedNext[to] = sum / WHOLE;
             }
-            System.arraycopy(reachedNext, 0, reached, 0, MAX_UNITS);
         }
     }
 
